@@ -6,10 +6,7 @@ public final class ClassEdgesTest {
     private static final int BAD = FieldCounts.BAD, NONE = FieldCounts.NONE;
     private static final int LEAST = Integer.MIN_VALUE, GREATEST = Integer.MAX_VALUE;
 
-    private static final int[] PRIMES = {3, 5, 7, 11, 13};
-    /** PLAIN CURVES without KNOT of the degrees 3 .. 6. */
-    private static final int[][] SOME = {{30, 82, 244, 732}, {126, 626, 3130, 15626},
-        {344, 2402, 16808, 117650}, {1332, 14642, 161052, 1771562}, {2198, 28562, 371294, 4826810}};
+    private static final int[] PRIMES = Facts.PRIMES;
     /** p, KIND, f and all CLASSES in order, u then v: one alone, all with v 0, some. */
     private static final int[][] LISTS = {
         {3, 0, 35, 1, 0},
@@ -183,7 +180,7 @@ public final class ClassEdgesTest {
     private static void greatPairs() {
         for (int prime = 0; prime < PRIMES.length; prime++) {
             for (int degree = 3; degree <= 5; degree += 2) {
-                FieldCounts x = with(PRIMES[prime], 0, SOME[prime][degree - 3]);
+                FieldCounts x = with(PRIMES[prime], 0, Facts.FIRST[prime][degree - 3]);
                 for (int great : new int[] {GREATEST, GREATEST - 1, 1 << 30, 1000000000}) {
                     Checks.due("great u", x.isClass(0, great, 0), 0);
                     Checks.due("great v", x.isClass(0, 1, great), 0);
@@ -243,7 +240,7 @@ public final class ClassEdgesTest {
     private static void evenDegrees(int prime) {
         for (int degree = 3; degree <= 6; degree++) {
             for (int kind = 0; kind <= 2; kind++) {
-                FieldCounts x = with(PRIMES[prime], kind, SOME[prime][degree - 3]);
+                FieldCounts x = with(PRIMES[prime], kind, Facts.FIRST[prime][degree - 3]);
                 boolean even = degree % 2 == 0;
                 String at = PRIMES[prime] + ", degree " + degree + ": ";
                 Checks.due(at + "isClass", x.isClass(0, 1, 0), even ? BAD : 1);
@@ -260,7 +257,7 @@ public final class ClassEdgesTest {
     }
 
     private static void noSuchCurve(int prime) {
-        FieldCounts x = with(PRIMES[prime], 0, SOME[prime][0]);
+        FieldCounts x = with(PRIMES[prime], 0, Facts.FIRST[prime][0]);
         for (int curve : new int[] {-1, 1, 7, 8, LEAST, GREATEST}) {
             String at = PRIMES[prime] + ", CURVE " + curve + ": ";
             Checks.due(at + "isClass", x.isClass(curve, 1, 0), BAD);

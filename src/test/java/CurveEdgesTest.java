@@ -7,18 +7,11 @@ public final class CurveEdgesTest {
     private static final int FULL = FieldCounts.FULL, NONE = FieldCounts.NONE, NO = FieldCounts.NO;
     private static final int LEAST = Integer.MIN_VALUE, GREATEST = Integer.MAX_VALUE;
 
-    private static final int[] PRIMES = {3, 5, 7, 11, 13};
-    private static final int[] FIELDS = {5, 3, 3, 2, 2};
-    private static final int[] D = {2, 2, 3, 2, 2};
+    private static final int[] PRIMES = Facts.PRIMES, FIELDS = Facts.FIELDS, D = Facts.D;
+    private static final int[][] FIRST = Facts.FIRST, LAST = Facts.LAST;
     /** p^3 and p^7: the least f, and the first number that is none. */
     private static final int[] CUBES = {27, 125, 343, 1331, 2197};
     private static final int[] SEVENTHS = {2187, 78125, 823543, 19487171, 62748517};
-    /** The first f of the degrees 3 .. 6 that has no KNOT, and the last one. */
-    private static final int[][] FIRST = {{30, 82, 244, 732}, {126, 626, 3130, 15626},
-        {344, 2402, 16808, 117650}, {1332, 14642, 161052, 1771562}, {2198, 28562, 371294, 4826810}};
-    private static final int[][] LAST = {{80, 242, 727, 2186}, {624, 3123, 15624, 78124},
-        {2400, 16806, 117648, 823541}, {14640, 161050, 1771560, 19487170},
-        {28560, 371292, 4826808, 62748516}};
     /** An f of GENUS 1 and one of GENUS 2 with COUNTS far from p and 1; of PLAIN, then of TWIST. */
     private static final int[][] FAR = {{34, 250}, {135, 3146}, {346, 17285}, {1345, 161055},
         {2201, 373529}};

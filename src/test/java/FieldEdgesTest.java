@@ -8,9 +8,7 @@ public final class FieldEdgesTest {
     private static final int LEAST = Integer.MIN_VALUE, GREATEST = Integer.MAX_VALUE;
     private static final int CALLS_MOST = 512;
 
-    private static final int[] PRIMES = {3, 5, 7, 11, 13};
-    private static final int[] FIELDS = {5, 3, 3, 2, 2};
-    private static final int[] D = {2, 2, 3, 2, 2};
+    private static final int[] PRIMES = Facts.PRIMES, FIELDS = Facts.FIELDS, D = Facts.D;
     private static final int[][] SIZES =
         {{3, 9, 27, 81, 243}, {5, 25, 125}, {7, 49, 343}, {11, 121}, {13, 169}};
     private static final int[][] MODULI =
@@ -51,6 +49,7 @@ public final class FieldEdgesTest {
         whichPrimes();
         primeTakesTheCurves();
         fieldsGoAndCome();
+        dOfEachPrime();
         theLastCall();
         for (int prime = 0; prime < PRIMES.length; prime++) {
             howManyFields(prime);
@@ -165,6 +164,18 @@ public final class FieldEdgesTest {
                 int square = there ? SQUARES[prime][n - 1] : BAD;
                 Checks.due("times by turns", x.times(n, size - 1, size - 1), square);
             }
+        }
+    }
+
+    /** "D is the least number of F(1) with SIGN -1": 3 with 7 alone, and 2 again behind it. */
+    private static void dOfEachPrime() {
+        FieldCounts x = new FieldCounts();
+        for (int prime : new int[] {2, 0, 2, 1, 2, 3, 2, 4, 0, 4, 2}) {
+            int p = PRIMES[prime];
+            x.prime(p);
+            Checks.due("D by turns", x.told(3), D[prime]);
+            Checks.due("TWIST by turns", x.curve(1, p * p * p + p, 0), 0);
+            Checks.due("D times up", x.value(0, 1, 1), 2 * D[prime] % p);
         }
     }
 

@@ -3,7 +3,7 @@ import java.util.Map;
 
 /**
  * A p and CURVES, those of odd degrees first, of all KINDS, with a KNOT and a trace: what a refused
- * call must leave as it is. Each object that it makes is new.
+ * call must leave as it is.
  */
 final class Scene {
     final Naive naive;
@@ -39,9 +39,12 @@ final class Scene {
         return naive.p + " with " + odd + " and " + even + ": ";
     }
 
-    /** At most 11 calls. */
     FieldCounts make() {
-        FieldCounts x = new FieldCounts();
+        return on(new FieldCounts());
+    }
+
+    /** Sets the scene on an object, whatever was there before: at most 11 calls. */
+    FieldCounts on(FieldCounts x) {
         x.prime(naive.p);
         for (int[] curve : curves) {
             x.curve(curve[0], curve[1], curve[2]);
