@@ -1,3 +1,6 @@
+import java.util.Arrays;
+import java.util.Locale;
+
 /** Every call of the face, so that a test can go through all of them and through all their places. */
 enum Call {
     PRIME(1), SIZE(1), MODULUS(1), PLUS(3), TIMES(3), OVER(2), RAISE(3), SIGN(2), TURNS(2), TRACE(2),
@@ -10,6 +13,31 @@ enum Call {
 
     Call(int places) {
         this.places = places;
+    }
+
+    /** The call of a name of the face. */
+    static Call named(String name) {
+        for (Call call : values()) {
+            if (call.written().equals(name)) {
+                return call;
+            }
+        }
+        throw new IllegalArgumentException("no call " + name);
+    }
+
+    /** Its name in the face. */
+    String written() {
+        return switch (this) {
+            case IS_CLASS -> "isClass";
+            case CLASS_AT -> "classAt";
+            default -> name().toLowerCase(Locale.ROOT);
+        };
+    }
+
+    /** Itself with numbers, as it is written in a program. */
+    String said(int... numbers) {
+        String list = Arrays.toString(numbers);
+        return written() + "(" + list.substring(1, list.length() - 1) + ")";
     }
 
     /** What it answers where a number is BAD. */

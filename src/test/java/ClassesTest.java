@@ -118,7 +118,7 @@ public final class ClassesTest {
             }
             // The line meets the curve in three points, whose x add up to what x x has.
             int[] row = naive.row(polynomial);
-            int x3 = Math.floorMod((slope * slope - row[2]) * over(row[3]) - x1 - x2, p);
+            int x3 = Math.floorMod((slope * slope - row[2]) * naive.over(row[3]) - x1 - x2, p);
             int y3 = Math.floorMod(y1 + slope * (x3 - x1), p);
             return indexOf(p + (p - x3) % p, (p - y3) % p);
         }
@@ -126,23 +126,14 @@ public final class ClassesTest {
         private int slope(int x1, int y1, int x2, int y2) {
             int p = naive.p;
             if (x1 != x2) {
-                return Math.floorMod((y2 - y1) * over(Math.floorMod(x2 - x1, p)), p);
+                return Math.floorMod((y2 - y1) * naive.over(Math.floorMod(x2 - x1, p)), p);
             }
             int[] row = naive.row(naive.derivative(polynomial));
             int value = 0;
             for (int i = row.length - 1; i >= 0; i--) {
                 value = (value * x1 + row[i]) % p;
             }
-            return value * over(2 * y1 % p) % p;
-        }
-
-        private int over(int c) {
-            for (int i = 1; i < naive.p; i++) {
-                if (c * i % naive.p == 1) {
-                    return i;
-                }
-            }
-            throw new IllegalStateException();
+            return value * naive.over(2 * y1 % p) % p;
         }
 
         private void laws() {

@@ -46,6 +46,7 @@ public final class FaceTest {
             if (Modifier.isPrivate(method.getModifiers())) {
                 continue;
             }
+            Checks.due("throws nothing: " + method, method.getExceptionTypes().length, 0);
             Checks.holds("public: " + method, method.getModifiers() == Modifier.PUBLIC);
             found.add(signature(method));
         }
@@ -54,6 +55,9 @@ public final class FaceTest {
         for (Field field : type.getDeclaredFields()) {
             if (!Modifier.isPrivate(field.getModifiers())) {
                 constants.add(field.getName());
+                int open = Modifier.PUBLIC | Modifier.STATIC | Modifier.FINAL;
+                Checks.due("a constant: " + field, field.getModifiers(), open);
+                Checks.holds("an int: " + field, field.getType() == int.class);
             }
         }
         Set<String> due = new TreeSet<>(List.of("BAD", "STATE", "FULL", "NONE", "NO"));
@@ -61,6 +65,7 @@ public final class FaceTest {
         Constructor<?>[] constructors = type.getDeclaredConstructors();
         Checks.due("constructors", constructors.length, 1);
         Checks.due("its parameters", constructors[0].getParameterCount(), 0);
+        Checks.due("it is public", constructors[0].getModifiers(), Modifier.PUBLIC);
     }
 
     private static String signature(Method method) {

@@ -115,6 +115,44 @@ final class Naive {
         throw new IllegalStateException(b + " does not divide " + a + " for " + p);
     }
 
+    /** How often b goes into a, a power of x at a time. */
+    long quotient(long a, long b) {
+        long left = a;
+        long quotient = 0;
+        while (left > 0 && degree(left) >= degree(b)) {
+            long power = power(p, degree(left) - degree(b));
+            quotient = sum(quotient, power);
+            left = difference(left, product(b, power));
+        }
+        return quotient;
+    }
+
+    /** The number of F(1) by which c gives 1. */
+    int over(int c) {
+        int over = 1;
+        while (c * over % p != 1) {
+            over++;
+        }
+        return over;
+    }
+
+    /** The greatest common divisor d, and a and b with d = a one + b two. */
+    long[] common(long one, long two) {
+        long[] last = {one, 1, 0};
+        long[] next = {two, 0, 1};
+        while (next[0] != 0) {
+            long quotient = quotient(last[0], next[0]);
+            long[] left = new long[3];
+            for (int i = 0; i < 3; i++) {
+                left[i] = difference(last[i], product(quotient, next[i]));
+            }
+            last = next;
+            next = left;
+        }
+        int over = over(lead(last[0]));
+        return new long[] {product(last[0], over), product(last[1], over), product(last[2], over)};
+    }
+
     /** M(n), by striking out the products of all pairs of lesser degrees. */
     int modulus(int n) {
         int first = power(p, n);

@@ -1,30 +1,32 @@
 import java.lang.management.ManagementFactory;
 
 /**
- * Long runs of calls with good and bad numbers: none may throw, the same calls give the same
- * answers, and a run makes no objects beyond those of the start.
+ * Long runs of calls with good and bad numbers: none may throw, each answer is that of Second, which
+ * works it out anew from what was told, and a run makes no objects beyond those of the start.
  */
 public final class StormTest {
     private static final int RUNS = 200;
+    /** Behind the first few: an object is used for 512 calls at most. */
     private static final int CALLS = 500;
     private static final int[] EDGES = {0, 1, 2, 3, 4, 5, 6, 7, 8, 9, 12, 13, 14, 26, 27, 33, 34, 100,
         101, 126, 168, 169, 242, 243, 250, 342, 343, 449, 450, 2186, 2187, 16808, 62748516, 62748517,
         1000000, 1000001, -1, -2, -9, -1000000000, Integer.MIN_VALUE, Integer.MAX_VALUE};
     private static final int[] CURVES = {0, 1, 2, 3};
 
+    private final int run;
+    private final FieldCounts x = new FieldCounts();
+    private final Second second = new Second();
     private long seed;
+    private int p = 3;
 
-    private StormTest(long seed) {
-        this.seed = seed;
+    private StormTest(int run) {
+        this.run = run;
+        seed = run;
     }
 
     public static void main(String[] args) {
         for (int run = 0; run < RUNS; run++) {
-            long[] one = new StormTest(run).run();
-            long[] two = new StormTest(run).run();
-            for (int i = 0; i < one.length; i++) {
-                Checks.due("run " + run + ", call " + i + " again", two[i], one[i]);
-            }
+            new StormTest(run).run();
         }
         room();
         Checks.finish();
@@ -37,76 +39,58 @@ public final class StormTest {
 
     /** Mostly small numbers, so that many calls are good ones. */
     private int number() {
-        int kind = next(10);
-        if (kind < 6) {
+        int kind = next(20);
+        if (kind < 12) {
             return next(4);
         }
-        return kind < 8 ? next(40) : EDGES[next(EDGES.length)];
+        if (kind < 18) {
+            return kind < 16 ? next(40) : next(p * p);
+        }
+        return EDGES[next(EDGES.length)];
     }
 
-    private long[] run() {
-        FieldCounts x = new FieldCounts();
-        long[] answers = new long[CALLS];
-        x.prime(Naive.PRIMES[next(5)]);
-        for (int i = 0; i < 6; i++) {
-            int p = x.told(0);
-            int span = p * p * p * (p - 1) * (i % 2 == 0 ? 1 : p * p);
-            x.curve(i % 3, p * p * p * (i % 2 == 0 ? 1 : p * p) + next(span), next(p));
+    private void run() {
+        ask(Call.PRIME, Naive.PRIMES[next(5)]);
+        for (int i = 0; i < 5; i++) {
+            ask(Call.CURVE, i % 3, polynomial(), next(p));
         }
-        for (int i = 0; i < CALLS - 20; i++) {
-            answers[i] = call(x, next(400));
+        for (int i = 0; i < CALLS; i++) {
+            any();
         }
-        return answers;
     }
 
-    private long call(FieldCounts x, int which) {
-        // prime() and curve() are rare, as they would leave no time to use what they make.
+    private void ask(Call call, int... numbers) {
+        Checks.due("run " + run + ": " + call.said(numbers), call.ask(x, numbers), second.ask(call, numbers));
+        p = (int) second.ask(Call.TOLD, 0);
+    }
+
+    /** One of a degree 3 .. 6; now and then with a square in it, so that there is a KNOT. */
+    private int polynomial() {
+        Naive naive = new Naive(p);
+        int first = naive.power(p, 3 + next(4));
+        if (next(5) == 0) {
+            long square = naive.product(p + next(p), p + next(p));
+            return (int) naive.product(naive.product(square, square), 1 + next(p * p - 1));
+        }
+        return first + next(first * (p - 1));
+    }
+
+    private void any() {
+        int which = next(150);
+        // prime() is rare, as it would leave no time to use what curve() makes.
         if (which == 0) {
-            return x.prime(number());
-        }
-        if (which < 9) {
-            return x.curve(number(), next(2) == 0 ? 125 + next(50000) : number(), number());
-        }
-        return which % 2 == 0 ? fields(x, which % 11) : curves(x, which % 19);
-    }
-
-    private long fields(FieldCounts x, int which) {
-        switch (which) {
-            case 0: return x.size(number());
-            case 1: return x.modulus(number());
-            case 2: return x.plus(number(), number(), number());
-            case 3: return x.times(number(), number(), number());
-            case 4: return x.over(number(), number());
-            case 5: return x.raise(number(), number(), number());
-            case 6: return x.sign(number(), number());
-            case 7: return x.turns(number(), number());
-            case 8: return x.trace(number(), number());
-            case 9: return x.forms(number(), number(), number(), number());
-            default: return x.told(number());
-        }
-    }
-
-    private long curves(FieldCounts x, int which) {
-        switch (which) {
-            case 0: return x.about(number(), number());
-            case 1: return x.value(number(), number(), number());
-            case 2: return x.count(number(), number());
-            case 3: return x.beyond(number(), number());
-            case 4: return x.share(number(), number());
-            case 5: return x.further(number(), number());
-            case 6: return x.whole(number());
-            case 7: return x.bound(number());
-            case 8: return x.surface(number(), number(), number());
-            case 9: return x.best(number(), number(), number());
-            case 10: return x.isClass(number(), number(), number());
-            case 11: return x.classes(number());
-            case 12: return x.classAt(number(), number(), number());
-            case 13: return x.add(number(), number(), number());
-            case 14: return x.minus(number(), number());
-            case 15: return x.order(number(), number());
-            case 16: return x.traced();
-            case 17: return x.best(3 + next(4), next(30000), 1 + next(100));
-            default: return x.knot();
+            ask(Call.PRIME, next(2) == 0 ? number() : Naive.PRIMES[next(5)]);
+        } else if (which < 7) {
+            ask(Call.CURVE, number(), next(4) == 0 ? number() : polynomial(), number());
+        } else if (which < 10) {
+            ask(Call.BEST, 3 + next(4), next(30000), 1 + next(100));
+        } else {
+            Call call = Call.values()[1 + next(Call.values().length - 1)];
+            int[] numbers = new int[call.places];
+            for (int i = 0; i < numbers.length; i++) {
+                numbers[i] = number();
+            }
+            ask(call, numbers);
         }
     }
 
