@@ -274,16 +274,16 @@ public final class FieldCounts {
     }
 
     public int best(int degree, int from, int many) {
-        if (degree < DEGREE_LEAST || degree > DEGREE_MOST || from < 0 || from > FROM_MOST
-                || many < 1 || many > MANY_MOST) {
+        Field field = fieldAt(1);
+        if (field == null || degree < DEGREE_LEAST || degree > DEGREE_MOST || from < 0
+                || from > FROM_MOST || many < 1 || many > MANY_MOST) {
             return BAD;
         }
-        Field field = fieldAt(1);
         int first = Math.max(from, ring.place(degree));
         int end = Math.min(from + many, ring.place(degree + 1));
         int best = NONE;
         int most = -1;
-        for (int f = first; f < end && field != null; f++) {
+        for (int f = first; f < end; f++) {
             if (ring.degree(ring.knotOf(f)) == 0) {
                 int points = field.pointsOf(f);
                 if (points > most) {

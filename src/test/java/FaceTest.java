@@ -41,6 +41,8 @@ public final class FaceTest {
     private static void face() {
         Class<?> type = FieldCounts.class;
         Checks.holds("public and final", type.getModifiers() == (Modifier.PUBLIC | Modifier.FINAL));
+        Checks.holds("of no other class", type.getSuperclass() == Object.class);
+        Checks.due("interfaces", type.getInterfaces().length, 0);
         Set<String> found = new TreeSet<>();
         for (Method method : type.getDeclaredMethods()) {
             if (Modifier.isPrivate(method.getModifiers())) {

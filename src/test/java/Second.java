@@ -173,11 +173,14 @@ final class Second {
     }
 
     private int bound(int g) {
+        if (g != 1 && g != 2) {
+            return BAD;
+        }
         int bound = 0;
-        while ((bound + 1) * (bound + 1) <= 4 * g * g * naive.p && g <= 2) {
+        while ((bound + 1) * (bound + 1) <= 4 * g * g * naive.p) {
             bound++;
         }
-        return g == 1 || g == 2 ? bound : BAD;
+        return bound;
     }
 
     private int best(int degree, int from, int many) {
